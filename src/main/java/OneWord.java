@@ -38,6 +38,7 @@ public final class OneWord {
     private final Tape tape;
     private final Talk talk;
     private final Hearings hearings;
+    private final Grammar grammar;
     private final Sense sense;
     private final ReadBack readBack;
     private final Crowd crowd;
@@ -48,6 +49,7 @@ public final class OneWord {
         tape = new Tape();
         talk = new Talk();
         hearings = new Hearings(people, talk);
+        grammar = new Grammar();
         sense = new Sense(people);
         readBack = new ReadBack(people, sense);
         crowd = new Crowd(people, sense);
@@ -80,9 +82,10 @@ public final class OneWord {
         if (!within(n, 1, MOST_TEXT) || !tape.has(n)) {
             return NONE;
         }
-        int answer = sense.learn(tape, n);
+        int answer = grammar.translate(tape, n, sense.spare);
         tape.empty();
         if (answer > 0) {
+            sense.takeSpare();
             crowd.forget();
         }
         return answer;
@@ -559,7 +562,7 @@ public final class OneWord {
         }
     }
 
-    /** What one ear hears, breath by breath; kept till talk or air change, as an ear is mostly asked many times over. */
+    /** What one ear hears, breath by breath; kept till talk or air change, as an ear is asked many times over. */
     private static final class Hearings {
         private final People people;
         private final Talk talk;
@@ -726,7 +729,7 @@ public final class OneWord {
         private static final int OPEN_TOO_MANY = 5;
         private static final String LETTERS = "gwlpsdekaf";
 
-        private Tape tape;
+        private final int[] text = new int[MOST_TEXT];
         private Code code;
         private int length;
         private int at;
@@ -735,8 +738,10 @@ public final class OneWord {
 
         /** How many clauses there are, or the fault as it is to be told. */
         int translate(Tape from, int n, Code into) {
-            tape = from;
-            length = n;
+            length = Math.min(n, MOST_TEXT);
+            for (int i = 0; i < length; i++) {
+                text[i] = from.byteAt(i);
+            }
             code = into;
             code.clear();
             at = 0;
@@ -753,7 +758,7 @@ public final class OneWord {
         }
 
         private int next() {
-            return at < length ? tape.byteAt(at) : NONE;
+            return at >= 0 && at < length ? text[at] : NONE;
         }
 
         private void fail(int number) {
@@ -780,11 +785,6 @@ public final class OneWord {
             }
             open++;
             at++;
-        }
-
-        private void leave(char sign) {
-            pass(sign);
-            open--;
         }
 
         private void clause() {
@@ -814,7 +814,8 @@ public final class OneWord {
             }
             enter();
             condition();
-            leave(')');
+            pass(')');
+            open--;
         }
 
         private void condition() {
@@ -903,7 +904,8 @@ public final class OneWord {
             if (sign == '[') {
                 enter();
                 sum();
-                leave(']');
+                pass(']');
+                open--;
             } else if (isDigit(sign)) {
                 number();
             } else {
@@ -959,11 +961,11 @@ public final class OneWord {
         private static final int DEEPEST = 24;
 
         private final People people;
-        private final Grammar grammar = new Grammar();
         private final int[] letters = new int[10];
         private final int[] stack = new int[DEEPEST];
         private Code code = new Code();
-        private Code spare = new Code();
+        // a text is translated apart from the one in use, which stays if there is a fault
+        Code spare = new Code();
         private boolean refused;
 
         Sense(People people) {
@@ -974,14 +976,10 @@ public final class OneWord {
             return code.clauses;
         }
 
-        int learn(Tape tape, int n) {
-            int answer = grammar.translate(tape, n, spare);
-            if (answer > 0) {
-                Code old = code;
-                code = spare;
-                spare = old;
-            }
-            return answer;
+        void takeSpare() {
+            Code old = code;
+            code = spare;
+            spare = old;
         }
 
         int byEar(int ear, int gap, int who, int last, int before) {
@@ -1357,7 +1355,7 @@ public final class OneWord {
             }
         }
 
-        /** What each would mean behind any gap that the crowd can come to; the tongue is dear to ask, so of no other. */
+        /** What each would mean behind any gap the crowd can come to: of no other, as the tongue is dear to ask. */
         void askGaps() {
             for (int i = 0; i < fitting.length; i++) {
                 fitting[i] = 0;
