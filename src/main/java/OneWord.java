@@ -38,8 +38,8 @@ public final class OneWord {
     private final Tape tape;
     private final Talk talk;
     private final Hearings hearings;
-    private final Grammar grammar;
     private final Sense sense;
+    private final Grammar grammar;
     private final ReadBack readBack;
     private final Crowd crowd;
     private final Rules rules;
@@ -49,8 +49,8 @@ public final class OneWord {
         tape = new Tape();
         talk = new Talk();
         hearings = new Hearings(people, talk);
-        grammar = new Grammar();
         sense = new Sense(people);
+        grammar = new Grammar(sense.spare);
         readBack = new ReadBack(people, sense);
         crowd = new Crowd(people, sense);
         rules = new Rules(people, sense);
@@ -735,6 +735,10 @@ public final class OneWord {
         private int at;
         private int open;
         private int fault;
+
+        Grammar(Code into) {
+            code = into;
+        }
 
         /** How many clauses there are, or the fault as it is to be told. */
         int translate(Tape from, int n, Code into) {

@@ -3,6 +3,7 @@ import java.util.Random;
 /** Long runs of drawn calls, right and wrong ones, on OneWord and on the plain people, which must answer alike. */
 public final class AgainstPlainTest {
     private static final int RUNS = 1200;
+    private static final int CROWDS = 2500;
     private static final int CALLS = 400;
     private static final String[] TONGUES = {
         "mg(1=1);r1(1=1)", "mg+s*10(1=1);rf*5+k(1=1)", "mg*2+w(1=1)", "mp(1=1);rf(g>1)", "mg%5+1(s=1);mg%3+1(1=1);rf+w(1=1)",
@@ -24,9 +25,10 @@ public final class AgainstPlainTest {
 
     public static void main(String[] args) {
         int wrong = 0;
-        for (int run = 0; run < RUNS && wrong < 3; run++) {
+        for (int run = 0; run < RUNS + CROWDS && wrong < 3; run++) {
             AgainstPlainTest test = new AgainstPlainTest(run);
-            test.go();
+            if (run < RUNS) test.go();
+            else test.crowd();
             if (!test.right) {
                 wrong++;
                 System.out.println("run " + run + ":\n" + test.log);
@@ -42,6 +44,43 @@ public final class AgainstPlainTest {
         for (int i = 0; i < first; i++, calls++) mouthCall();
         for (; calls < CALLS && right; calls++) {
             call(random.nextInt(24));
+        }
+    }
+
+    /** Tongues by which most rows can be said in many ways, so that much hangs on which of like rows is told. */
+    private String mixingTongue() {
+        int n = 2 + random.nextInt(5);
+        String mixed = "m1+[g*" + random.nextInt(4) + "+w*" + random.nextInt(4) + "+l*" + random.nextInt(4) + "+p*" + random.nextInt(4)
+            + "+s*" + random.nextInt(4) + "]%" + n;
+        String[] when = {"(1=1)", "(g>" + random.nextInt(20) + ")", "(g%3=" + random.nextInt(3) + "|g=63)", "(!w=l|g>2)", "(g>p|p=63|g>5)"};
+        return mixed + when[random.nextInt(when.length)] + ";rf+[g+w*2+k]%3(g>" + random.nextInt(3) + ")";
+    }
+
+    private void crowd() {
+        int mouths = 1 + random.nextInt(4);
+        for (int i = 0; i < mouths; i++) {
+            same("mouth(0, 0, 0)", word.mouth(0, 0, 0), plain.mouth(0, 0, 0));
+        }
+        String text = mixingTongue();
+        feedBytes(text.chars().toArray());
+        log.append(text).append('\n');
+        same("tongue(" + text.length() + ")", word.tongue(text.length()), plain.tongue(text.length()));
+        int words = 0;
+        for (int i = 0; i < mouths; i++) {
+            int n = random.nextInt(mouths < 3 ? 5 : 4);
+            words += n;
+            feedBytes(new int[] {1 + random.nextInt(4), 1 + random.nextInt(4), 1 + random.nextInt(3), 1 + random.nextInt(2)});
+            same("sentence(" + i + ", " + n + ")", word.sentence(i, n), plain.sentence(i, n));
+        }
+        int bits = (1 << mouths) - 1;
+        plain.remember(true);
+        same("soonest(" + bits + ", -1)", word.soonest(bits, -1), plain.soonest(bits, -1));
+        for (int i = 0; i < words; i++) {
+            same("soonest(" + bits + ", 100 + " + i + ")", word.soonest(bits, 100 + i), plain.soonest(bits, 100 + i));
+            same("soonest(" + bits + ", 200 + " + i + ")", word.soonest(bits, 200 + i), plain.soonest(bits, 200 + i));
+        }
+        for (int what = 0; what < 3; what++) {
+            same("byRules(" + bits + ", 99, " + what + ")", word.byRules(bits, 99, what), plain.byRules(bits, 99, what));
         }
     }
 

@@ -28,6 +28,14 @@ final class PlainPeople {
     private int range = 200;
     private int speed = 100;
     private List<PlainTongue.Clause> tongue = new ArrayList<>();
+    private boolean remembering;
+    private Map<String, Row> known;
+
+    /** For a test that asks the same SOONEST many times over and changes nothing between. */
+    void remember(boolean yes) {
+        remembering = yes;
+        known = null;
+    }
 
     int mouth(int atX, int atY, int thousandths) {
         if (Math.abs((long) atX) > 50 || Math.abs((long) atY) > 50 || thousandths < 0 || thousandths > 1000) return -1;
@@ -252,7 +260,8 @@ final class PlainPeople {
         boolean speaker = what >= 100 && what < 100 + total;
         boolean gap = what >= 200 && what < 200 + total;
         if (what != -1 && !speaker && !gap) return -3;
-        Row best = soonestFrom(who, new int[8], 8, 63, new HashMap<>());
+        if (known == null || !remembering) known = new HashMap<>();
+        Row best = soonestFrom(who, new int[8], 8, 63, known);
         if (best == null) return -2;
         if (what == -1) return best.cost;
         return speaker ? best.who.get(what - 100) : best.gaps.get(what - 200);

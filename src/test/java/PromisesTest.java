@@ -158,8 +158,17 @@ public final class PromisesTest {
         due("it is read to its end", word.meaning(0, 2, 0, 8, 63), 0);
         due("a text of 200", tongue(word, most.toString().replace("m0", "m09") + ")"), 1);
         due("it means", word.meaning(0, 2, 0, 8, 63), 9);
+        tape(word, (most.toString().replace("m0", "m009") + ")").chars().toArray());
+        due("a text of 201", word.tongue(201), -1);
+        due("stays on the tape", word.count(3), 220);
+        word.check(0, 0);
         due("fourteen clauses", tongue(word, "m1(1=1)" + ";r1(1=1)".repeat(13)), 14);
         due("count of them", word.count(2), 14);
+        due("the last of fourteen", tongue(word, "m1(g=1);".repeat(13) + "m14(g=7)"), 14);
+        due("means", word.meaning(0, 7, 0, 8, 63), 14);
+        due("another", tongue(word, "m3(1=1)"), 1);
+        due("and another", tongue(word, "m4(g=1)"), 1);
+        due("nothing is left of those before", word.meaning(0, 7, 0, 8, 63), 0);
         due("six open in E, then six in C", tongue(word, "m[[[[[[1]]]]]]((((((g=1))))))"), 1);
         due("six ! and (", tongue(word, "m1(!(!(!g=1)))"), 1);
         due("( and five !, twice", tongue(word, "m1(!!!!!g=1&!!!!!g=1)"), 1);
@@ -295,6 +304,8 @@ public final class PromisesTest {
         value("m5(1=1&1/0=0|1=1);m6(1=1)", 1, 6);
         value("m5((1=1|1/0=1)&(1=2&1%0=1|2=2));m6(1=1)", 1, 5);
         value("m5(0=1/0);m6(1=1)", 1, 6);
+        value("m1(g=1);m5/0(1=1)", 1, 1);
+        value("m9(g=9);m1(g=1);m5/0(1=1)", 1, 1);
         value("m5/[g-4](1=1)", 4, 0);
         value("m5/[g-4](1=1)", 5, 5);
     }
@@ -401,13 +412,22 @@ public final class PromisesTest {
             due("ear 2, who " + i, word.hearing(2, i, 1), two[i][1]);
         }
         due("who was heard ahead, and its gap", word.hearing(2, 2, 3), 2 + 2 * 4);
-        int[][] bad = {{0, 3, 0}, {0, -1, 0}, {3, 0, 0}, {-1, 0, 0}, {0, 0, 4}, {0, 0, -1}, {0, MOST, 0}, {0, LEAST, 3}};
+        int[][] bad = {{0, 3, 0}, {0, 3, 1}, {0, 3, 2}, {0, 3, 3}, {0, -1, 2}, {0, -1, 0}, {3, 0, 0}, {-1, 0, 0}, {0, 0, 4}, {0, 0, -1}, {0, MOST, 0}, {0, LEAST, 3}};
         for (int[] b : bad) due("no such hearing", word.hearing(b[0], b[1], b[2]), -1);
         word.quiet();
         word.say(1, 3);
         word.say(2, 12);
         due("the nearer of two at once", word.heard(0), 1);
         due("is heard", word.hearing(0, 0, 1), 2);
+        word.quiet();
+        word.say(1, 0);
+        word.say(2, 1);
+        word.say(0, 4);
+        int[][] late = {{2, 2}, {4, 0}, {10, 1}};
+        for (int i = 0; i < 3; i++) {
+            due("what is said first may be heard last, " + i, word.hearing(0, i, 0), late[i][0]);
+            due("by whom, " + i, word.hearing(0, i, 1), late[i][1]);
+        }
         word.quiet();
         word.say(0, 0);
         word.say(0, 62);
@@ -503,7 +523,7 @@ public final class PromisesTest {
         word.say(1, 30);
         due("the last hearing's gap", read(word, 0, 0, 5, 20), 2);
         due("who spoke in it", read(word, 0, 0, 5, 1), 1);
-        due("then the told gap", read(word, 0, 1, 5, 20, 5, 5), 2);
+        due("then the told gap", read(word, 0, 1, 5, 20, 7, 5), 2);
         word.air(0, 1);
         due("what this ear heard last", read(word, 0, 0, 5, 31), 1);
     }
@@ -541,6 +561,9 @@ public final class PromisesTest {
         for (int[] b : bad) due("no such missing", word.missed(b[0], b[1], b[2], b[3]), -1);
         due("the tape stays", word.count(3), 20);
         due("nineteen bytes are enough", word.missed(0, 0, 9, 0), -2);
+        tape(word, new int[40]);
+        due("eleven are too many", word.missed(0, 0, 11, -1), -1);
+        due("ten are not", word.missed(0, 0, 10, -1), -2);
     }
 
     private static void missedAmongOthers() {
@@ -561,6 +584,12 @@ public final class PromisesTest {
         due("the gap behind hears of the split", missed(word, 0, 0, 1, 9, 4, 17, 32, 2), 7);
         due("those ahead must mean it, too", missed(word, 0, 0, -1, 4, 9, 16, 32, 32), 0);
         due("two gaps on nothing has changed", missed(word, 0, 0, -1, 3, 1, 1, 1, 32, 32, 32, 1, 1), 2 * 3);
+        due("but must be as told", missed(word, 0, 0, -1, 3, 1, 1, 1, 32, 32, 32, 1, 2), 0);
+        due("there, too", missed(word, 0, 0, -1, 3, 1, 1, 1, 32, 32, 32, 2, 1), 0);
+        due("by the gap ahead", missed(word, 0, 0, -1, 3, 1, 9, 1, 32, 32, 32, 1, 9), 2 * 3);
+        due("three gaps do", missed(word, 0, 0, -1, 3, 1, 1, 32, 32, 32, 2), 0);
+        tongue(word, "mg+p*0(1=1)");
+        due("the gap behind the split is its own", missed(word, 0, 0, -1, 3, 4, 5, 32, 32, 4, 32), 2 * 3 + 1 * 3);
         tongue(word, "ml+1(1=1)");
         due("who was missed is who was heard ahead", missed(word, 0, 1, 2, 3, 32, 3), 2);
         due("all others by the told mouth", missed(word, 0, 1, -1, 3, 3, 1, 32, 1), 2 * 1);
@@ -594,6 +623,7 @@ public final class PromisesTest {
         due("a gap of 21 can't be", word.soonest(1, -1), -2);
         words(word, 0, 7, 20);
         due("one of 20 can", word.soonest(1, -1), 20);
+        due("and is told", word.soonest(1, 201), 20);
         tongue(word, "m7(g=63&p=63&l=8&s=0&d=0&e=w);m20(l=0&p=63&s=1&g=3)");
         word.air(0, 1);
         due("the tongue is asked anew", word.soonest(1, -1), 3);
@@ -670,9 +700,16 @@ public final class PromisesTest {
         words(word, 2, 1, 1);
         due("bounds and what is next", word.byRules(7, 9, 1), 4);
         due("the last one", word.byRules(7, 9, 0), 3);
-        tongue(word, "m1(1=1);r1001(w=0);r1000(w=1)");
+        tongue(word, "m1(1=1);r1000(w=0);r1001(w=1)");
         words(word, 1, 2);
-        due("beyond its bound the bound: like ones", word.byRules(3, 2, 1), 1);
+        due("beyond its bound the bound: like ones", word.byRules(3, 1, 1), 1);
+        tongue(word, "m1(1=1);r999(w=0);r1000(w=1)");
+        due("below it not", word.byRules(3, 1, 1), 0);
+        tongue(word, "m1(1=1);rf(1=1)");
+        due("who would mean it", word.byRules(3, 9, 1), 1);
+        due("and nobody else", word.byRules(3, 9, 2), 1);
+        tongue(word, "m2(w=1);m1(w=2&l=8);rk(1=1)");
+        due("2 has most words left, then 1 is lower", word.byRules(7 - 1, 2, 1), 2);
         words(word, 0);
         due("nothing to say", word.byRules(1, 1, 0), 0);
         due("nothing said", word.byRules(1, 1, 1), 0);
@@ -701,6 +738,8 @@ public final class PromisesTest {
         int[] gaps = {7, 1, 4, 10};
         for (int i = 1; i <= 4; i++) due("gap of " + i, table(3, i, 2, 9, 9, 0), gaps[i - 1]);
         due("255 is more than 127", table(1, 2, 127, 255), 1);
+        due("the last one ahead", table(1, 1, 127, 255), 2);
+        due("in the sum, too", table(1, -1, 127, 255), 2 * 127 + 255);
         due("the most", table(5, -1, 255, 255, 255, 255, 255, 255, 255, 255, 255, 255, 255, 255), 255 * (12 + 5 * 66));
         due("the last gap", table(5, 12, 255, 255, 255, 255, 255, 255, 255, 255, 255, 255, 255, 255), 56);
         due("one alone", table(5, 1, 0), 1);
@@ -729,6 +768,9 @@ public final class PromisesTest {
             due("no meaning " + what + " of two alike", alike(what, 9, 8, 9), -2);
         }
         due("how many", alike(4, 6, 5, 20, 7), 4);
+        due("the last one, too", alike(4, 6, 20, 5), 1);
+        due("as the first", alike(0, 6, 20, 5), 3);
+        due("as the second", alike(1, 5, 20, 6), 3);
         due("none", alike(4, 6, 8, 20), 0);
         due("SAFE", alike(0, 6, 8, 20), -3);
         due("SAFE", alike(3, 6, 8, 20), -3);
@@ -792,7 +834,9 @@ public final class PromisesTest {
 
     private static void drawAtItsEnds() {
         OneWord word = crowd(8, 1000);
+        due("nothing heard yet", word.heard(0), 0);
         due("a hundred and fifty", word.draw(200), 150);
+        due("all are heard", word.heard(0), 150);
         due("the last", word.said(149, 1), 149);
         int x = 1;
         for (int i = 0; i < 200; i++) x = (25173 * x + 13849) % 65536;
@@ -842,6 +886,7 @@ public final class PromisesTest {
         word.say(0, 5);
         word.say(1, 8);
         word.seed(77);
+        due("two are heard", word.heard(1), 2);
         due("two fall", word.quiet(), 2);
         due("none are left", word.count(1), 0);
         due("none is heard", word.heard(1), 0);
@@ -889,6 +934,10 @@ public final class PromisesTest {
         due("one is lacking", word.check(0, 1), 1);
         word.feed(3, 5, 0, 0, 0);
         due("one too many", word.check(0, 3), 2);
+        word.feed(3, 5, 3, 0, 0);
+        due("whatever it is", word.check(0, 3), 2);
+        word.feed(3, 0x00010005, 0, 0, 0);
+        due("the second byte counts", word.check(0, 2), 1);
         word.feed(4, 5, 0, 0, 0);
         due("the first is not so", word.check(0, 2), 0);
         word.feed(3, 6, 0, 0, 0);
