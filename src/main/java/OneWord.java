@@ -1167,8 +1167,9 @@ public final class OneWord {
             }
         }
 
+        /** Whether the ear can have heard it so: a gap is a hearing's, so nobody beyond range ever makes one. */
         private boolean fits(int meaning, int gap, int who, int last, int before) {
-            if (meaning < 0 || meaning >= MOST_READ) {
+            if (meaning < 0 || meaning >= MOST_READ || !people.reaches(ear, who)) {
                 return false;
             }
             return told[meaning] == ANY_MEANING || sense.byEar(ear, gap, who, last, before) == told[meaning];
@@ -1178,7 +1179,7 @@ public final class OneWord {
             int before = i == 0 ? lastGap : gaps[i - 1];
             int found = 0;
             for (int who = 0; who < people.size; who++) {
-                if (people.reaches(ear, who) && fits(i, gaps[i], who, last, before)) {
+                if (fits(i, gaps[i], who, last, before)) {
                     found |= 1 << who;
                 }
             }

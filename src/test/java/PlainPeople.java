@@ -233,6 +233,7 @@ final class PlainPeople {
         for (int i = 0; i < n; i++) {
             for (int part = 1; part < gaps.get(i); part++) {
                 for (int q = 0; q < mouths.size(); q++) {
+                    if (wayOf(ear, q) > range) continue;
                     List<Integer> all = new ArrayList<>(gaps);
                     all.set(i, gaps.get(i) - part);
                     all.add(i, part);

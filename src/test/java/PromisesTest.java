@@ -23,6 +23,7 @@ public final class PromisesTest {
         readBehindAHearing();
         missed();
         missedAmongOthers();
+        missedWithinRange();
         soonest();
         soonestAmongLikeOnes();
         byRules();
@@ -575,24 +576,52 @@ public final class PromisesTest {
         tape(word, 5, 32, 32);
         due("the told mouth is within RANGE", word.missed(0, 2, 1, -1), -1);
         due("the tape stays", word.count(3), 20);
-        due("at RANGE it is", word.missed(0, 1, 1, -1), 4 * 3);
+        due("at RANGE it is", word.missed(0, 1, 1, -1), 4 * 2);
         tongue(word, "mp(1=1)");
         word.say(0, 0);
         word.say(0, 17);
-        due("behind the last hearing", missed(word, 0, 0, -1, 3, 17, 1), 3);
+        due("behind the last hearing", missed(word, 0, 0, -1, 3, 17, 1), 2);
         due("not behind the one before", missed(word, 0, 0, -1, 3, 31, 1), 0);
         due("the gap behind hears of the split", missed(word, 0, 0, 1, 9, 4, 17, 32, 2), 7);
         due("those ahead must mean it, too", missed(word, 0, 0, -1, 4, 9, 16, 32, 32), 0);
-        due("two gaps on nothing has changed", missed(word, 0, 0, -1, 3, 1, 1, 1, 32, 32, 32, 1, 1), 2 * 3);
+        due("two gaps on nothing has changed", missed(word, 0, 0, -1, 3, 1, 1, 1, 32, 32, 32, 1, 1), 2 * 2);
         due("but must be as told", missed(word, 0, 0, -1, 3, 1, 1, 1, 32, 32, 32, 1, 2), 0);
         due("there, too", missed(word, 0, 0, -1, 3, 1, 1, 1, 32, 32, 32, 2, 1), 0);
-        due("by the gap ahead", missed(word, 0, 0, -1, 3, 1, 9, 1, 32, 32, 32, 1, 9), 2 * 3);
+        due("by the gap ahead", missed(word, 0, 0, -1, 3, 1, 9, 1, 32, 32, 32, 1, 9), 2 * 2);
         due("three gaps do", missed(word, 0, 0, -1, 3, 1, 1, 32, 32, 32, 2), 0);
         tongue(word, "mg+p*0(1=1)");
-        due("the gap behind the split is its own", missed(word, 0, 0, -1, 3, 4, 5, 32, 32, 4, 32), 2 * 3 + 1 * 3);
+        due("the gap behind the split is its own", missed(word, 0, 0, -1, 3, 4, 5, 32, 32, 4, 32), 2 * 2 + 1 * 2);
         tongue(word, "ml+1(1=1)");
-        due("who was missed is who was heard ahead", missed(word, 0, 1, 2, 3, 32, 3), 2);
+        due("who was missed is who was heard ahead", missed(word, 0, 1, 2, 3, 32, 2), 1);
         due("all others by the told mouth", missed(word, 0, 1, -1, 3, 3, 1, 32, 1), 2 * 1);
+    }
+
+    private static void missedWithinRange() {
+        OneWord word = new OneWord();
+        word.mouth(-9, 0, 0);
+        word.mouth(0, 0, 0);
+        word.mouth(5, 0, 0);
+        word.mouth(9, 0, 0);
+        word.air(0, 1);
+        due("nobody but the ear itself", missed(word, 1, 1, -1, 3, 32, 0), 2);
+        due("so that is who", missed(word, 1, 1, 2, 3, 32, 0), 1);
+        word.air(4, 1);
+        due("a place short of the next one", missed(word, 1, 1, -1, 3, 32, 0), 2);
+        word.air(5, 1);
+        due("as far as RANGE", missed(word, 1, 1, -1, 3, 32, 0), 2 * 2);
+        due("of the ear, not of the told mouth", missed(word, 1, 2, -1, 3, 32, 0), 2 * 2);
+        due("of each ear its own", missed(word, 2, 1, -1, 3, 32, 0), 2 * 3);
+        due("in each gap of a row", missed(word, 1, 1, -1, 3, 1, 4, 32, 32, 32, 32), 2 * 2 + 3 * 2);
+        tongue(word, "mw(1=1)");
+        due("not even if it alone means what was told", missed(word, 1, 1, -1, 3, 3, 1), 0);
+        due("then there is no first", missed(word, 1, 1, 0, 3, 3, 1), -3);
+        due("what is in RANGE and means it is the first", missed(word, 1, 1, 2, 3, 2, 1), 2);
+        tongue(word, "ml(1=1)");
+        due("nor if it alone lets the next one mean it", missed(word, 1, 1, 2, 3, 8, 3), -3);
+        word.air(9, 1);
+        due("till RANGE is as far", missed(word, 1, 1, 2, 3, 8, 3), 3);
+        due("then all are asked, the lowest first", missed(word, 1, 1, 2, 3, 8, 32), 0);
+        due("so many", missed(word, 1, 1, -1, 3, 8, 32), 2 * 4);
     }
 
     private static void soonest() {
