@@ -129,7 +129,7 @@ final class BoundariesOfCrowd extends Boundaries {
         due("by rules", word.byRules(1, 9, 0), 1);
     }
 
-    @Of(part = "Terms", says = "each MEANING in its order, one SAYING for each")
+    @Of(part = "Terms", says = "say their SENTENCES, each MEANING in its order, one SAYING for each")
     static void p14EachInItsOrder() {
         OneWord word = crowd(1, BY_GAP);
         sentence(word, 0, 7, 3, 1, 2);
@@ -161,6 +161,23 @@ final class BoundariesOfCrowd extends Boundaries {
         due("four breaths", one.soonest(1, -1), 4);
         due("the least gaps", one.soonest(1, 201), 1);
         due("and what follows", one.soonest(1, 202), 3);
+    }
+
+    @Of(part = "Terms", says = "nobody says anything else, in any order among them: the least BREATHS (GAPS but the first one's) till all are said")
+    static void p14InAnyOrderTheLeastBreaths() {
+        // 9 behind itself takes five breaths, behind the other one: so they speak by turns
+        OneWord word = crowd(2, "m9(l=8);m9(s=0);m9(s=1&g=5)");
+        sentence(word, 0, 9, 9);
+        sentence(word, 1, 9, 9);
+        due("by turns", word.soonest(3, -1), 3);
+        int[] who = {0, 1, 0, 1};
+        for (int i = 0; i < 4; i++) due("who " + i, word.soonest(3, 100 + i), who[i]);
+        due("alone", word.soonest(1, -1), 5);
+        due("the first gap takes no breath", word.soonest(1, 200), 63);
+        // who has no word left can't speak between
+        sentence(word, 1, 9);
+        sentence(word, 0, 9, 9, 9);
+        due("but once", word.soonest(3, -1), 1 + 1 + 5);
     }
 
     @Of(part = "Promise 14", says = "SOONEST of MOUTHS")
@@ -248,7 +265,7 @@ final class BoundariesOfCrowd extends Boundaries {
         due("none said", nothing.byRules(1, 400, 1), 0);
     }
 
-    @Of(part = "Terms", says = "of those with MEANINGS left whose r is above 0")
+    @Of(part = "Terms", says = "BY RULES: in each BREATH from 0 on, of those with MEANINGS left whose r is above 0")
     static void p15AboveZero() {
         String[] wishes = {"0-1", "0", "1"};
         for (int i = 0; i < 3; i++) {
@@ -326,7 +343,7 @@ final class BoundariesOfCrowd extends Boundaries {
         due("empty then, too", word.count(3), 0);
     }
 
-    @Of(part = "Terms", says = "with told uses (0 to 255)")
+    @Of(part = "Terms", says = "A TABLE: MEANINGS 1 to n (1 to 12) with told uses (0 to 255)")
     static void p16UsesAre0To255() {
         due("0", table(1, -1, 0), 0);
         due("1", table(1, -1, 1), 1);
@@ -348,6 +365,29 @@ final class BoundariesOfCrowd extends Boundaries {
             due("the second, " + k, table(k, 2, 1, 1), 1 + k);
             due("the twelfth, " + k, table(k, 12, row(12, 1)), 1 + 11 * k);
         }
+    }
+
+    @Of(part = "Terms", says = "any two at least k (1 to 5) apart: the least sum of uses times GAPS")
+    static void p16NoOtherTableHasALessSum() {
+        int[][] of = {{7, 7, 7}, {0, 9, 3}, {3, 2, 1}, {1, 2, 3}, {0, 0, 5}, {255, 1, 254}, {4, 4, 9}};
+        for (int[] uses : of) {
+            for (int k = 1; k <= 5; k++) {
+                due("of " + uses[0] + " " + uses[1] + " " + uses[2] + ", " + k + " apart", table(k, -1, uses), leastOfAll(k, uses));
+                int sum = 0;
+                for (int i = 1; i <= 3; i++) sum += uses[i - 1] * table(k, i, uses);
+                due("its gaps make that", sum, leastOfAll(k, uses));
+            }
+        }
+    }
+
+    private static int leastOfAll(int k, int[] uses) {
+        int least = MOST;
+        int most = 3 + 2 * k;
+        for (int a = 1; a <= most; a++) for (int b = 1; b <= most; b++) for (int c = 1; c <= most; c++) {
+            boolean apart = Math.abs(a - b) >= k && Math.abs(b - c) >= k && Math.abs(a - c) >= k;
+            if (apart) least = Math.min(least, a * uses[0] + b * uses[1] + c * uses[2]);
+        }
+        return least;
     }
 
     @Of(part = "Terms", says = "GAPS from 1 on")
@@ -441,7 +481,7 @@ final class BoundariesOfCrowd extends Boundaries {
         for (int what = -1; what <= 5; what++) due("what " + what, alike(what, 8, 3, 9, 4), want[what + 1]);
     }
 
-    @Of(part = "Terms", says = "the first GAP is one more, the second one less")
+    @Of(part = "Terms", says = "one becomes the other if the SAYING between comes one BREATH late: the first GAP is one more, the second one less")
     static void p17OneMoreAndOneLess() {
         int[] up = {1, 2, 2, 1};
         int[] down = {2, 1, 1, 2};
@@ -459,6 +499,27 @@ final class BoundariesOfCrowd extends Boundaries {
         int[] want = {2, 1, 1, 2};
         for (int what = 0; what < 4; what++) due("what " + what, alike(what, 6, 5, 21, 20), want[what]);
         due("four", alike(4, 6, 5, 21, 20), 4);
+    }
+
+    @Of(part = "Terms", says = "ALIKE: of two SENTENCES of two MEANINGS each, by a TABLE that is told (MEANINGS 1 to n, their GAPS, 1 to 63, all unlike)")
+    static void p17FromTheLowestGapToTheHighest() {
+        int[] low = {1, 2, 2, 1};
+        int[] high = {2, 1, 1, 2};
+        for (int what = 0; what < 4; what++) {
+            due("1 and 2, " + what, alike(what, 1, 2), low[what]);
+            due("63 and 62, " + what, alike(what, 63, 62), high[what]);
+        }
+        due("1 has none that is less, 63 none that is more", alike(4, 63, 1), 0);
+        due("one meaning twice", alike(4, 5, 6, 7), 4);
+        due("of the middle one, too", alike(1, 5, 6, 7), 2);
+    }
+
+    @Of(part = "Terms", says = "SAFE if there is none")
+    static void p17SafeIfThereIsNone() {
+        due("none", alike(4, 5, 7, 9, 11), 0);
+        due("safe", alike(0, 5, 7, 9, 11), -3);
+        due("two that are one apart", alike(4, 5, 7, 9, 10), 1);
+        due("are not safe", alike(0, 5, 7, 9, 10), 3);
     }
 
     @Of(part = "Promise 17", says = "-3: SAFE, for 0 to 3")
@@ -487,7 +548,18 @@ final class BoundariesOfCrowd extends Boundaries {
 
     // ---- what holds of all ----
 
-    @Of(part = "The public face", says = "public static final int NONE = -1;")
+    @Of(part = "Terms", says = "All memory is the people's own.")
+    static void twoObjectsAreApart() {
+        OneWord one = three();
+        refuseAll(one);
+        one.draw(200);
+        OneWord other = new OneWord();
+        int[] want = {0, 0, 0, 0, 1, 200, 100};
+        for (int what = 0; what < want.length; what++) due("count " + what, other.count(what), want[what]);
+        due("nothing kept", other.undo(), false);
+    }
+
+    @Of(part = "Terms", says = "The constants: `NONE = -1`: There is none.")
     static void theConstant() {
         due("NONE", OneWord.NONE, -1);
     }

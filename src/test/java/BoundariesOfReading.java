@@ -157,7 +157,7 @@ final class BoundariesOfReading extends Boundaries {
         due("of another ear", read(word, 2, 0, 1, ANY), 4);
     }
 
-    @Of(part = "Terms", says = "the first behind its last HEARING (or none)")
+    @Of(part = "Terms", says = "heard by an EAR one behind the other, the first behind its last HEARING (or none)")
     static void p12BehindTheLastHearingOrNone() {
         OneWord word = line(0, 5);
         tongue(word, "m9(l=8&p=63);ml+p/2(1=1)");
@@ -171,6 +171,18 @@ final class BoundariesOfReading extends Boundaries {
         due("what this ear did not hear is none", read(word, 0, 0, 1, 9), 1);
         word.quiet();
         due("none again", read(word, 1, 0, 1, 9), 2);
+    }
+
+    @Of(part = "Terms", says = "by which each MEANS what was told: how many; who may have said the i-th.")
+    static void p12EachMustMeanWhatWasTold() {
+        OneWord word = crowd(3, "mw+g(1=1)");
+        due("each", read(word, 0, -1, 4, 4, 4, 5, 4, 6), 1);
+        due("not the first", read(word, 0, -1, 4, 3, 4, 5, 4, 6), 0);
+        due("not the last", read(word, 0, -1, 4, 4, 4, 5, 4, 7), 0);
+        due("one is any", read(word, 0, -1, 4, 4, 4, ANY, 4, 6), 3);
+        due("who said that", read(word, 0, 1, 4, 4, 4, ANY, 4, 6), 7);
+        due("who said the one ahead", read(word, 0, 0, 4, 4, 4, ANY, 4, 6), 1);
+        due("who said the one behind", read(word, 0, 2, 4, 4, 4, ANY, 4, 6), 4);
     }
 
     @Of(part = "Promise 12", says = "-1 also: no such ones")
@@ -252,7 +264,7 @@ final class BoundariesOfReading extends Boundaries {
         }
     }
 
-    @Of(part = "Terms", says = "one GAP (2 at least) was two, by any MOUTH at any BREATH within it")
+    @Of(part = "Terms", says = "in which one SAYING was missed: one GAP (2 at least) was two, by any MOUTH at any BREATH within it")
     static void p13AGapOf2AtLeast() {
         OneWord word = crowd(2);
         due("of 1", missed(word, 0, 0, -1, 1, 0, 0), 0);
@@ -349,6 +361,21 @@ final class BoundariesOfReading extends Boundaries {
             takesTheTape("none, " + what, Boundaries::threeWithoutTape, word -> missed(word, 0, 0, asked, 1, ANY, ANY), -3);
         }
         due("but so many", missed(three(), 0, 0, -1, 1, ANY, ANY), 0);
+    }
+
+    @Of(part = "Terms", says = "in how many ways the MEANINGS, one more of them, are what was told (32: any): which GAP, where in it, who;")
+    static void p13EachMustMeanWhatWasTold() {
+        OneWord word = crowd(2, "mg(1=1)");
+        due("7 and 4 were 7 and 1 and 3", missed(word, 0, 0, -1, 7, 4, 7, 1, 3), 2);
+        due("not so the first", missed(word, 0, 0, -1, 7, 4, 6, 1, 3), 0);
+        due("not so the second", missed(word, 0, 0, -1, 7, 4, 7, 2, 3), 0);
+        due("not so the last", missed(word, 0, 0, -1, 7, 4, 7, 1, 4), 0);
+        due("which gap", missed(word, 0, 0, 0, 7, 4, 7, 1, 3), 1);
+        due("where in it", missed(word, 0, 0, 1, 7, 4, 7, 1, 3), 1);
+        due("who", missed(word, 0, 0, 2, 7, 4, 7, 1, 3), 0);
+        due("the last is any", missed(word, 0, 0, -1, 7, 4, 7, 1, ANY), 2);
+        due("the first is any: also 1 and 6 and 4", missed(word, 0, 0, -1, 7, 4, ANY, ANY, 3), 2);
+        due("all are any", missed(word, 0, 0, -1, 7, 4, ANY, ANY, ANY), 2 * (6 + 3));
     }
 
     @Of(part = "Promise 13", says = "NONE also: no such ones")

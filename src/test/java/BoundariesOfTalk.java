@@ -105,7 +105,7 @@ final class BoundariesOfTalk extends Boundaries {
         due("it stands there", word.way(0, 1), 100);
     }
 
-    @Of(part = "Terms", says = "each with so many thousandths (0 to 1000")
+    @Of(part = "Terms", says = "each with so many thousandths (0 to 1000; 0 at first)")
     static void p02ThousandthsAre0To1000() {
         OneWord word = new OneWord();
         due("-1", word.mouth(0, 0, -1), -1);
@@ -318,7 +318,7 @@ final class BoundariesOfTalk extends Boundaries {
         due("two", word.say(0, 4), 2);
     }
 
-    @Of(part = "Terms", says = "a MOUTH says the word in a BREATH (0 to 9999)")
+    @Of(part = "Terms", says = "A SAYING: a MOUTH says the word in a BREATH (0 to 9999)")
     static void p07BreathsAre0To9999() {
         OneWord word = crowd(1);
         due("-1", word.say(0, -1), -1);
@@ -422,7 +422,7 @@ final class BoundariesOfTalk extends Boundaries {
         due("who is a place away", word.heard(2), 0);
     }
 
-    @Of(part = "Terms", says = "the WAY through SPEED, rounded down")
+    @Of(part = "Terms", says = "so many BREATHS later: the WAY through SPEED, rounded down")
     static void p09RoundedDown() {
         OneWord word = line(0, 9);
         word.say(1, 100);
@@ -479,7 +479,7 @@ final class BoundariesOfTalk extends Boundaries {
         due("and two ears heard it", word.said(0, 2), 2);
     }
 
-    @Of(part = "Terms", says = "it HEARS just one: that of the least WAY")
+    @Of(part = "Terms", says = "Of all that an EAR would HEAR in one and the same BREATH it HEARS just one: that of the least WAY")
     static void p09OfTwoAtOnceTheNearer() {
         OneWord word = line(0, 8, -7);
         word.air(200, 100);
@@ -543,7 +543,7 @@ final class BoundariesOfTalk extends Boundaries {
         due("a breath later", word.hearing(0, 1, 2), 1);
     }
 
-    @Of(part = "Terms", says = "BREATHS since the HEARING before (its first one: 63")
+    @Of(part = "Terms", says = "THE GAP of a HEARING: BREATHS since the HEARING before (its first one: 63")
     static void p09TheFirstGapIs63() {
         int[] breaths = {0, 1, 62, 63, 64, 9999};
         for (int breath : breaths) {
@@ -610,7 +610,7 @@ final class BoundariesOfTalk extends Boundaries {
         due("no RANGE is asked", word.way(0, 1), 200);
     }
 
-    @Of(part = "Terms", says = "the differences of x and of y without sign, together")
+    @Of(part = "Terms", says = "THE WAY between two: the differences of x and of y without sign, together")
     static void p10WithoutSign() {
         OneWord word = new OneWord();
         word.mouth(0, 0, 0);
@@ -658,7 +658,7 @@ final class BoundariesOfTalk extends Boundaries {
 
     // ---- Promise 19 ----
 
-    @Of(part = "Terms", says = "for n BREATHS (1 to 200)")
+    @Of(part = "Terms", says = "DRAWN: for n BREATHS (1 to 200)")
     static void p19Of1To200Breaths() {
         OneWord word = new OneWord();
         due("0", word.draw(0), -1);
@@ -713,7 +713,7 @@ final class BoundariesOfTalk extends Boundaries {
         }
     }
 
-    @Of(part = "Terms", says = "X / 8 modulo 1000 is below its thousandths")
+    @Of(part = "Terms", says = "and X / 8 modulo 1000 is below its thousandths")
     static void p19BelowItsThousandths() {
         // 39022 / 8 modulo 1000 is 877
         int[][] at = {{0, 0}, {876, 0}, {877, 0}, {878, 1}, {1000, 1}};
@@ -1033,7 +1033,7 @@ final class BoundariesOfTalk extends Boundaries {
         takesTheTape("as many as twenty bytes have", Boundaries::threeWithShortTape, word -> word.check(0, 5), 0);
     }
 
-    @Of(part = "Terms", says = "CHECK of an EAR: its MEANINGS, HEARING by HEARING")
+    @Of(part = "Terms", says = "CHECK of an EAR: its MEANINGS, HEARING by HEARING: right, or the first number that is not so")
     static void p24OfEachEarItsOwn() {
         OneWord word = line(0, 10);
         tongue(word, "mg(1=1)");
@@ -1045,6 +1045,8 @@ final class BoundariesOfTalk extends Boundaries {
         due("0 hears its own", word.check(0, 2), -1);
         word.feed(31, 0, 0, 0, 0);
         due("1 hears its own", word.check(1, 1), -1);
+        word.feed(31, 7, 0, 0, 0);
+        due("and no second one", word.check(1, 2), 1);
     }
 
     // ---- Promise 25 ----

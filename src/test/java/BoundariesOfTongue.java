@@ -53,7 +53,7 @@ final class BoundariesOfTongue extends Boundaries {
         due("the one before stays", word.meaning(0, 1, 0, 8, 63), 5);
     }
 
-    @Of(part = "Terms", says = "a TEXT of at most 200 bytes")
+    @Of(part = "Terms", says = "THE TONGUE: a TEXT of at most 200 bytes")
     static void p05TextsOf199And200And201() {
         OneWord word = crowd(1);
         due("199", tongue(word, textOf(199)), 1);
@@ -201,7 +201,7 @@ final class BoundariesOfTongue extends Boundaries {
         means("m0(1=1);m2(1=1)", 5, 0);
     }
 
-    @Of(part = "Terms", says = "(beyond its bounds the bound; none: 0)")
+    @Of(part = "Terms", says = "m what a HEARING MEANS (0 to 31)")
     static void p05MeaningsAreBoundedBy0And31() {
         reckons("0-99999", 0);
         reckons("0-1", 0);
@@ -322,7 +322,7 @@ final class BoundariesOfTongue extends Boundaries {
 
     // ---- numbers ----
 
-    @Of(part = "Terms", says = "E: TERMS with + or - between two")
+    @Of(part = "Terms", says = "from the left on")
     static void p05FromTheLeftOn() {
         reckons("20-5-3", 12);
         reckons("20-5+3", 18);
@@ -333,6 +333,13 @@ final class BoundariesOfTongue extends Boundaries {
         reckons("17%5*3", 6);
         reckons("3*17%5", 1);
         reckons("20-[5-3]", 18);
+    }
+
+    @Of(part = "Terms", says = "E: TERMS with + or - between two")
+    static void p05TermsHaveASignBetweenTwo() {
+        reckons("4+5", 9);
+        reckons("9-5", 4);
+        reckons("5-9+6", 2);
         fault("m+1(1=1)", 1, 1);
         fault("m-1(1=1)", 1, 1);
         fault("m1+(1=1)", 1, 3);
@@ -375,6 +382,17 @@ final class BoundariesOfTongue extends Boundaries {
         fault("m000007(1=1)", 2, 6);
         fault("m1(g=123456)", 2, 10);
         fault("m1(g=12345)1", 1, 11);
+    }
+
+    @Of(part = "Terms", says = "or a letter")
+    static void p05LettersAndNoOthers() {
+        String known = "gwlpsdekaf";
+        for (char letter = 'a'; letter <= 'z'; letter++) {
+            if (known.indexOf(letter) >= 0) noFault("m" + letter + TRUE, 1);
+            else fault("m" + letter + TRUE, 1, 1);
+            fault("m" + (char) (letter - 32) + TRUE, 1, 1);
+            fault("mg" + letter + TRUE, 1, 2);
+        }
     }
 
     @Of(part = "Terms", says = "g THE GAP")
@@ -442,7 +460,7 @@ final class BoundariesOfTongue extends Boundaries {
         due("by rules", rules.byRules(1, 5, 0), 0);
     }
 
-    @Of(part = "Terms", says = "k how many MEANINGS are left to say, a the next one of these")
+    @Of(part = "Terms", says = "k how many MEANINGS are left to say, a the next one of these (0: none)")
     static void p05InRulesWhatIsLeftAndNext() {
         OneWord word = crowd(1, "m4(l=8);m31(1=1);r1(k=4&a=4|k=3&a=31)");
         sentence(word, 0, 4, 31, 1, 1);

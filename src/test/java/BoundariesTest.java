@@ -10,7 +10,7 @@ import java.util.TreeMap;
 
 /**
  * Runs each test of a boundary and holds the words that it stands for against the document: they must stand there, and
- * no word of a promise may be without a test. With the argument "words" it tells what each test stands for.
+ * no word of a promise or of the terms may be without a test. With the argument "words" it tells what each test stands for.
  */
 public final class BoundariesTest {
     private static final Path DOCUMENT = Path.of("../shared/DOC.md");
@@ -73,14 +73,18 @@ public final class BoundariesTest {
             }
             left.computeIfPresent(of.part(), (part, words) -> without(words, parts.get(part), of.says()));
         }
+        wrong += unwatched("Terms", left.getOrDefault("Terms", "it is not there").replaceAll("```(text)?|==== \\d\\.", ""));
         for (int i = 1; i <= PROMISES; i++) {
-            String words = left.getOrDefault("Promise " + i, "it is not there").replaceAll("^ *`[^`]*`:", "");
-            if (words.matches(".*\\w.*")) {
-                wrong++;
-                System.out.println("Promise " + i + " has words without a test: " + words.replaceAll("~+", "~"));
-            }
+            String part = "Promise " + i;
+            wrong += unwatched(part, left.getOrDefault(part, "it is not there").replaceAll("^ *`[^`]*`:", ""));
         }
         return wrong;
+    }
+
+    private static int unwatched(String part, String words) {
+        if (!words.matches(".*\\w.*")) return 0;
+        System.out.println(part + " has words without a test: " + words.replaceAll("~+", "~"));
+        return 1;
     }
 
     /** What is left of a part when these words are crossed out wherever it says them. */
