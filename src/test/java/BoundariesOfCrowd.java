@@ -69,6 +69,17 @@ final class BoundariesOfCrowd extends Boundaries {
         due("none behind", word.soonest(3, 101), -3);
     }
 
+    @Of(part = "Promise 14", says = "200 + i THE GAP of SAYING i (63: the first one)")
+    static void p14OfOneSayingWhoeverSaysIt() {
+        for (int mouth = 0; mouth < 4; mouth++) {
+            OneWord word = crowd(4, "m1(1=1)");
+            sentence(word, mouth, 1);
+            due("who", word.soonest(15, 100), mouth);
+            due("the gap", word.soonest(15, 200), 63);
+            due("breaths", word.soonest(15, -1), 0);
+        }
+    }
+
     @Of(part = "Promise 14", says = "-2: it can't be")
     static void p14ItCanNotBe() {
         OneWord word = crowd(2, BY_GAP);
@@ -103,6 +114,31 @@ final class BoundariesOfCrowd extends Boundaries {
         due("neither below nor above", none.soonest(1, -1), -2);
         sentence(word, 0, 7, 20, 20, 20);
         due("three times 20", word.soonest(1, -1), 60);
+    }
+
+    @Of(part = "Terms", says = "each further one a GAP of 1 to 20")
+    static void p14NotTwoInOneBreath() {
+        // if 1 could begin, as by a gap of 0, it would take one breath
+        OneWord word = crowd(2, "m7(w=0&g=63|g=1);m1(g=0|g=2)");
+        sentence(word, 0, 7);
+        sentence(word, 1, 1);
+        due("two breaths", word.soonest(3, -1), 2);
+        due("0 begins", word.soonest(3, 100), 0);
+        due("1 goes on", word.soonest(3, 201), 2);
+    }
+
+    @Of(part = "Terms", says = "each further one a GAP of 1 to 20")
+    static void p14BehindAGapOf20() {
+        OneWord word = crowd(2, "m1(l=8);m2(w=0&g=20);m3(w=1&l=0&p=20&g=2)");
+        sentence(word, 0, 1, 2);
+        sentence(word, 1, 3);
+        int[] who = {0, 0, 1};
+        int[] gaps = {63, 20, 2};
+        due("breaths", word.soonest(3, -1), 22);
+        for (int i = 0; i < 3; i++) {
+            due("who " + i, word.soonest(3, 100 + i), who[i]);
+            due("gap " + i, word.soonest(3, 200 + i), gaps[i]);
+        }
     }
 
     @Of(part = "Terms", says = "THE CROWD: all HEAR all at once (THE WAY 0, no RANGE asked; the EAR of all is the speaker's own: e is w)")
@@ -180,6 +216,37 @@ final class BoundariesOfCrowd extends Boundaries {
         due("but once", word.soonest(3, -1), 1 + 1 + 5);
     }
 
+    @Of(part = "Terms", says = "the least BREATHS (GAPS but the first one's) till all are said")
+    static void p14OneBreathLessIsSooner() {
+        // by 0 0 1 it takes 2 and 1, by 0 1 0 it takes 1 and 1
+        OneWord word = crowd(2, "m1(l=8);m3(w=1&g=1);m2(s=1&g=2|s=0&g=1)");
+        sentence(word, 0, 1, 2);
+        sentence(word, 1, 3);
+        due("two breaths", word.soonest(3, -1), 2);
+        due("the other between", word.soonest(3, 101), 1);
+        // by gaps 1 and 4, or by 3 and 1
+        OneWord one = crowd(1, "m1(l=8);m2(p=63&g=1|p=63&g=3);m3(p=1&g=4|p=3&g=1)");
+        sentence(one, 0, 1, 2, 3);
+        due("four breaths", one.soonest(1, -1), 4);
+        due("though the first gap is longer", one.soonest(1, 201), 3);
+    }
+
+    @Of(part = "Terms", says = "of like ones the least row of who speaks, then of GAPS")
+    static void p14TheLeastGapsByWhichTheseCanSpeak() {
+        // four breaths by 0 0 1 2 with gaps 2 1 1, or by 0 0 2 1 with gaps 1 2 1
+        OneWord word = crowd(3, "m1(l=8);m2(w=0&l=0&g<3);m4(w=2&l=0&p=1&g=2|w=2&l=1&g=1);m3(w=1&l=2&g=1|w=1&l=0&p=2&g=1)");
+        sentence(word, 0, 1, 2);
+        sentence(word, 1, 3);
+        sentence(word, 2, 4);
+        int[] who = {0, 0, 1, 2};
+        int[] gaps = {63, 2, 1, 1};
+        due("breaths", word.soonest(7, -1), 4);
+        for (int i = 0; i < 4; i++) {
+            due("who " + i, word.soonest(7, 100 + i), who[i]);
+            due("gap " + i, word.soonest(7, 200 + i), gaps[i]);
+        }
+    }
+
     @Of(part = "Promise 14", says = "SOONEST of MOUTHS")
     static void p14WhatWasFoundBeforeIsNotToldAgain() {
         OneWord word = crowd(2, BY_GAP);
@@ -247,6 +314,16 @@ final class BoundariesOfCrowd extends Boundaries {
         sentence(word, 1, 1);
         due("1 never speaks", word.byRules(3, 400, 0), -2);
         due("0 alone is not asked about it", word.byRules(1, 400, 0), 1);
+    }
+
+    @Of(part = "Promise 15", says = "what 0 at which BREATH the last one was said (-2: not all; none to be said: 0)")
+    static void p15NoneToBeSaidBehindSomeThatWere() {
+        OneWord word = crowd(2, "m1(1=1);r1(1=1)");
+        sentence(word, 0, 1, 1, 1);
+        due("of three", word.byRules(1, 9, 0), 2);
+        due("of none", word.byRules(2, 9, 0), 0);
+        due("none were", word.byRules(2, 9, 1), 0);
+        due("no sayings", word.byRules(2, 9, 2), 0);
     }
 
     @Of(part = "Promise 15", says = "1 how many MEANINGS were said, 2 how many SAYINGS there were")

@@ -108,6 +108,15 @@ final class BoundariesOfReading extends Boundaries {
         }
     }
 
+    @Of(part = "Promise 12", says = "READ for an EAR by the first 2 n bytes of the tape")
+    static void p12ABadRowIsForgotten() {
+        OneWord word = crowd(1);
+        for (int n = 12; n >= 2; n--) {
+            due("a bad row of " + n, read(word, 0, -1, pairs(n, 64, 33)), -2);
+            due("a good one of " + (n - 1), read(word, 0, -1, pairs(n - 1, 1, 0)), 1);
+        }
+    }
+
     @Of(part = "Promise 12", says = "what NONE how many rows")
     static void p12NoRowAndAllRows() {
         OneWord word = crowd(8, "mw(l=8);mw-l(w>l)");
@@ -376,6 +385,59 @@ final class BoundariesOfReading extends Boundaries {
         due("the last is any", missed(word, 0, 0, -1, 7, 4, 7, 1, ANY), 2);
         due("the first is any: also 1 and 6 and 4", missed(word, 0, 0, -1, 7, 4, ANY, ANY, 3), 2);
         due("all are any", missed(word, 0, 0, -1, 7, 4, ANY, ANY, ANY), 2 * (6 + 3));
+    }
+
+    @Of(part = "Terms", says = "in how many ways the MEANINGS, one more of them, are what was told (32: any): which GAP, where in it, who;")
+    static void p13EachBehindTheGapAheadOfIt() {
+        // what is said means the gap ahead of it: 63 - 32, then that of the one before
+        OneWord word = crowd(1, "mp%32(1=1)");
+        int[][] told = {{31, 1, 3, 5, 6, 0, 1}, {31, 4, 2, 3, 6, 1, 2}, {31, 4, 5, 4, 2, 2, 4}, {31, 4, 5, 6, 1, 3, 1}};
+        for (int[] t : told) {
+            int[] row = {4, 5, 6, 7, t[0], t[1], t[2], t[3], t[4]};
+            due("one way", missed(word, 0, 0, -1, row), 1);
+            due("the gap", missed(word, 0, 0, 0, row), t[5]);
+            due("where in it", missed(word, 0, 0, 1, row), t[6]);
+        }
+        due("the last is not so", missed(word, 0, 0, -1, 4, 5, 6, 7, 31, 1, 3, 5, 7), 0);
+        due("the last but one is not so", missed(word, 0, 0, -1, 4, 5, 6, 7, 31, 1, 3, 4, 6), 0);
+    }
+
+    @Of(part = "Terms", says = "all others said by one told MOUTH")
+    static void p13EachBehindWhoIsAheadOfIt() {
+        // what is said means who is ahead of it, and 1
+        OneWord word = crowd(3, "ml+1(1=1)");
+        for (int gap = 0; gap < 4; gap++) {
+            int[] row = {2, 2, 2, 2, 9, 3, 3, 3, 3};
+            row[5 + gap] = 2;
+            due("one way", missed(word, 0, 2, -1, row), 1);
+            due("the gap", missed(word, 0, 2, 0, row), gap);
+            due("by 1", missed(word, 0, 2, 2, row), 1);
+        }
+        due("by 2 itself in any gap", missed(word, 0, 2, -1, 2, 2, 2, 2, 9, 3, 3, 3, 3), 4);
+        due("not by two others", missed(word, 0, 2, -1, 2, 2, 2, 2, 9, 2, 2, 3, 3), 0);
+    }
+
+    @Of(part = "Terms", says = "in how many ways the MEANINGS, one more of them, are what was told (32: any): which GAP, where in it, who;")
+    static void p13EachByItsOwnGap() {
+        OneWord word = crowd(1, "mg(1=1)");
+        int[][] told = {{1, 3, 5, 6, 7, 0, 1}, {4, 2, 3, 6, 7, 1, 2}, {4, 5, 4, 2, 7, 2, 4}, {4, 5, 6, 1, 6, 3, 1}};
+        for (int[] t : told) {
+            int[] row = {4, 5, 6, 7, t[0], t[1], t[2], t[3], t[4]};
+            due("one way", missed(word, 0, 0, -1, row), 1);
+            due("the gap", missed(word, 0, 0, 0, row), t[5]);
+            due("where in it", missed(word, 0, 0, 1, row), t[6]);
+            row[8]++;
+            due("the last is not so", missed(word, 0, 0, -1, row), 0);
+        }
+    }
+
+    @Of(part = "Promise 13", says = "by the first n bytes of the tape (GAPS, 1 to 10)")
+    static void p13ABadRowIsForgotten() {
+        OneWord word = crowd(1);
+        for (int n = 10; n >= 2; n--) {
+            due("a bad row of " + n, missed(word, 0, 0, -1, gapsThenMeanings(n, 64, 33)), -2);
+            due("a good one of " + (n - 1), missed(word, 0, 0, -1, gapsThenMeanings(n - 1, 2, 0)), n - 1);
+        }
     }
 
     @Of(part = "Promise 13", says = "NONE also: no such ones")

@@ -253,6 +253,16 @@ final class BoundariesOfTalk extends Boundaries {
         due("four stay", word.count(10), 4);
     }
 
+    @Of(part = "Promise 6", says = "The SENTENCE of a MOUTH by the first n bytes of the tape (0 to 4 MEANINGS; empty then): n")
+    static void p06NothingIsLeftOfALongerOne() {
+        OneWord word = crowd(1, "m5(1=1)");
+        for (int n = 4; n >= 0; n--) {
+            due("of " + n, sentence(word, 0, row(n, 5)), n);
+            for (int i = 0; i < 4; i++) due("word " + i + " of " + n, word.count(20 + i), i < n ? 5 : -1);
+            due("so many breaths", word.soonest(1, -1), Math.max(0, n - 1));
+        }
+    }
+
     @Of(part = "Promise 6", says = "empty then")
     static void p06TheTapeIsEmptyThen() {
         for (int n = 0; n <= 4; n++) {
@@ -577,6 +587,18 @@ final class BoundariesOfTalk extends Boundaries {
         due("of none", word.hearing(0, 0, 0), -1);
     }
 
+    @Of(part = "Promise 9", says = "NONE: no such ones")
+    static void p09NoneAheadOfTheFirstAndBehindTheLast() {
+        OneWord word = crowd(1, "m9(1=1)");
+        for (int heard = 0; heard < 3; heard++) {
+            for (int what = 0; what < 4; what++) {
+                due("what " + what + " ahead of " + heard, word.hearing(0, -1, what), -1);
+                due("what " + what + " behind " + heard, word.hearing(0, heard, what), -1);
+            }
+            word.say(0, heard);
+        }
+    }
+
     @Of(part = "Promise 9", says = "what 0 the BREATH, 1 who, 2 THE GAP, 3 what it MEANS")
     static void p09WhatIs0To3() {
         OneWord word = line(0, 1);
@@ -713,6 +735,20 @@ final class BoundariesOfTalk extends Boundaries {
         }
     }
 
+    @Of(part = "Terms", says = "MOUTH X modulo 8 says it, if it is there")
+    static void p19EachMouthOfEight() {
+        OneWord word = talkers();
+        word.draw(64);
+        int x = 1;
+        int spoke = 0;
+        for (int i = 0; i < 64; i++) {
+            x = nextX(x);
+            due("who in breath " + i, word.said(i, 0), x % 8);
+            spoke |= 1 << x % 8;
+        }
+        due("all eight of them", spoke, 255);
+    }
+
     @Of(part = "Terms", says = "and X / 8 modulo 1000 is below its thousandths")
     static void p19BelowItsThousandths() {
         // 39022 / 8 modulo 1000 is 877
@@ -820,6 +856,23 @@ final class BoundariesOfTalk extends Boundaries {
         due("the last", word.said(149, 0), who[1]);
         due("its breath", word.said(149, 1), 149);
         due("they are heard again", word.heard(0), 150);
+    }
+
+    @Of(part = "Promise 21", says = "UNDONE: true")
+    static void p21WhatWasHeardIsUndoneToo() {
+        OneWord word = crowd(1, "mg(1=1)");
+        word.say(0, 4);
+        word.keep();
+        word.say(0, 6);
+        due("two", word.heard(0), 2);
+        due("undone", word.undo(), true);
+        due("one", word.heard(0), 1);
+        due("no second", word.hearing(0, 1, 0), -1);
+        word.quiet();
+        due("none", word.heard(0), 0);
+        word.undo();
+        due("one again", word.heard(0), 1);
+        due("at its breath", word.hearing(0, 0, 0), 4);
     }
 
     @Of(part = "Terms", says = "UNDONE: as they were KEPT last")
@@ -932,6 +985,27 @@ final class BoundariesOfTalk extends Boundaries {
         }
     }
 
+    @Of(part = "Promise 23", says = "2 how many EARS HEARD it")
+    static void p23TheFirstSayingMayDrownTheLast() {
+        OneWord word = crowd(2);
+        word.say(0, 3);
+        word.say(1, 3);
+        due("the first, of the lower", word.said(0, 2), 2);
+        due("the last, of the higher", word.said(1, 2), 0);
+        word.say(1, 4);
+        due("a breath later", word.said(2, 2), 2);
+        OneWord late = line(0, 10);
+        late.air(200, 10);
+        late.say(1, 3);
+        late.say(0, 4);
+        due("said first, but 0 speaks when it comes there", late.said(0, 2), 1);
+        due("which 1 hears later", late.said(1, 2), 2);
+        late.air(200, 9);
+        due("at another SPEED, too", late.said(0, 2), 1);
+        late.air(200, 11);
+        due("and if it comes ahead of that, both do", late.said(0, 2), 2);
+    }
+
     @Of(part = "Promise 23", says = "(two of one MOUTH in one BREATH: both)")
     static void p23TwoOfOneMouthBoth() {
         OneWord word = line(0, 5);
@@ -1011,6 +1085,20 @@ final class BoundariesOfTalk extends Boundaries {
         due("one that there is none for", word.check(0, 4), 3);
         word.feed(31, 5, 1, 0, 0);
         due("nor for two", word.check(0, 5), 3);
+    }
+
+    @Of(part = "Promise 24", says = "else the place of the first number that is not so")
+    static void p24NoNumberIsRightForNoHearing() {
+        OneWord word = crowd(1);
+        word.feed(0, 0, 0, 0, 0);
+        due("of none", word.check(0, 1), 0);
+        word.say(0, 1);
+        word.feed(0, 0, 0, 0, 0);
+        due("one means 0", word.check(0, 1), -1);
+        word.feed(0, 0, 0, 0, 0);
+        due("a second is not there", word.check(0, 2), 1);
+        word.feed(0, -1, 0, 0, 0);
+        due("nor by NONE", word.check(0, 2), 1);
     }
 
     @Of(part = "Promise 24", says = "(n: some are lacking)")

@@ -98,6 +98,18 @@ final class BoundariesOfTongue extends Boundaries {
         due("nothing is left of the fourteen", word.meaning(0, 9, 0, 8, 63), 0);
     }
 
+    @Of(part = "Promise 5", says = "in place of the one before: how many CLAUSES")
+    static void p05NothingIsLeftOfLongerTexts() {
+        OneWord word = crowd(1);
+        for (int i = 0; i < 2; i++) due("fourteen", tongue(word, "m1(g=1);".repeat(13) + "m2(1=1)"), 14);
+        for (int i = 0; i < 2; i++) {
+            due("one", tongue(word, "m3(g=3)"), 1);
+            due("which does not hold", word.meaning(0, 9, 0, 8, 63), 0);
+        }
+        for (int i = 0; i < 12; i++) due("of 200 bytes, " + i, tongue(word, textOf(200)), 1);
+        due("as the first time", word.meaning(0, 9, 0, 8, 63), 5);
+    }
+
     @Of(part = "Promise 5", says = "a FAULT: -1000 times its number, less its place (the TEXT before stays)")
     static void p05TheTextBeforeStays() {
         String fifteen = "m1(1=1);".repeat(14) + "m";
@@ -115,6 +127,16 @@ final class BoundariesOfTongue extends Boundaries {
         due("a fault", tongue(word, "m7(1=1);"), -1008);
         due("no clauses", word.count(2), 0);
         due("no meaning", word.meaning(0, 1, 0, 8, 63), 0);
+    }
+
+    @Of(part = "Promise 5", says = "a FAULT: -1000 times its number, less its place (the TEXT before stays)")
+    static void p05AFaultAgainAndAgain() {
+        String[] bad = {"m[[[[[[[1", "m1(!!!!!!1=1)", "m1(!(!([", "m[[[[[[1]", "m123456"};
+        int[] answers = {-5007, -5008, -1008, -1009, -2006};
+        OneWord word = new OneWord();
+        for (int i = 0; i < 15; i++) due("the fault of " + bad[i % 5], tongue(word, bad[i % 5]), answers[i % 5]);
+        due("six may still be open", tongue(word, "m[[[[[[1]]]]]]((((((1=1))))))"), 1);
+        due("and seven not", tongue(word, "m[[[[[[[1]]]]]]](1=1)"), -5007);
     }
 
     @Of(part = "Promise 5", says = "less its place")
@@ -199,6 +221,15 @@ final class BoundariesOfTongue extends Boundaries {
         means("m1(g=4);m2(g=4);m3(g<9)", 5, 3);
         means("r1(1=1);m2(1=1);r3(1=1)", 5, 2);
         means("m0(1=1);m2(1=1)", 5, 0);
+    }
+
+    @Of(part = "Terms", says = "of the first one of a letter whose C holds the E")
+    static void p05ClausesBehindItAreNotAsked() {
+        means("m5(1=1);m6/0(1=1)", 5, 5);
+        means("m5(1=1);m6(1/0=1)", 5, 5);
+        means("m5(1=1);r6/0(1/0=1);m7(1=1)", 5, 5);
+        means("r6/0(1/0=1);m5(1=1)", 5, 5);
+        means("m6/0(1=2);m5(1=1);m7/0(1=1)", 5, 5);
     }
 
     @Of(part = "Terms", says = "m what a HEARING MEANS (0 to 31)")
@@ -301,6 +332,20 @@ final class BoundariesOfTongue extends Boundaries {
         holds("0-1>0", false);
         holds("65536*32768<0", true);
         holds("65536*32768-1>65536*32768", true);
+    }
+
+    @Of(part = "Terms", says = "one of < > =")
+    static void p05EachOfThreeHoldsOrNotForAllThatIsAroundIt() {
+        String[] so = {"g<6", "g>4", "g=5"};
+        String[] not = {"g<5", "g>5", "g=4"};
+        for (int i = 0; i < 3; i++) {
+            holds("!" + so[i], false);
+            holds("!" + not[i], true);
+            holds(so[i] + "&1=2", false);
+            holds(so[i] + "|1=2", true);
+            holds(not[i] + "&1=1", false);
+            holds(not[i] + "|1=1", true);
+        }
     }
 
     @Of(part = "Terms", says = "Of a C as much is asked, from the left, as matters")
@@ -478,6 +523,17 @@ final class BoundariesOfTongue extends Boundaries {
         sentence(word, 0, 9, 3);
         due("at 0 and at 3", word.byRules(1, 9, 0), 3);
         due("never when it does not fit", word.byRules(1, 9, 2), 2);
+    }
+
+    @Of(part = "Terms", says = "f whether it would MEAN that (1, 0)")
+    static void p05WithoutAnyOtherLetter() {
+        OneWord word = crowd(1, "m1(1=1);rf(1=1)");
+        sentence(word, 0, 1);
+        due("it would", word.byRules(1, 9, 1), 1);
+        sentence(word, 0, 2);
+        due("it would not", word.byRules(1, 9, 2), 0);
+        tongue(word, "m1(1=1);r1-f(1=1)");
+        due("so it wants to", word.byRules(1, 9, 2), 9);
     }
 
     @Of(part = "Terms", says = "All is reckoned with 32 bits, as the machine does")
